@@ -25,6 +25,8 @@ public final class TreeTongues {
     /** One probe for the final sets, and one for each class that is split off. */
     private static final int MOST_PROBES = MOST_CLASSES + 2;
     private static final int OPEN = -1;
+    /** Where a sign has no second part, tables hold what it makes as with state 0 alone. */
+    private static final int NO_PART = 1;
     /** More than any first tree has: six classes have first trees of 63 signs at most. */
     private static final int NO_SIZE = 1000;
 
@@ -451,7 +453,7 @@ public final class TreeTongues {
         }
 
         int rankOf(int sign) {
-            return knows(sign) ? ranks[sign] : 0;
+            return sign >= 0 && sign < known ? ranks[sign] : 0;
         }
 
         /** How many numbers to try for a part: a part that is not there counts as number 0. */
@@ -668,7 +670,7 @@ public final class TreeTongues {
             for (int s = 0; s < signs.known; s++) {
                 for (int x = 0; x < signs.choices(s, 0, c); x++) {
                     for (int y = 0; y < signs.choices(s, 1, c); y++) {
-                        int kind = kindTable[kindCell(s, x, y)];
+                        int kind = kindWith(kindTable, s, x, y);
                         int size = sizeWith(s, x, y);
                         if (kindClasses[kind] == OPEN && size < sizes[c]) {
                             found = kind;
@@ -683,8 +685,9 @@ public final class TreeTongues {
             return found;
         }
 
-        private int kindCell(int sign, int first, int second) {
-            return signs.cell(sign, classKinds[first], classKinds[second], MOST_CLASSES);
+        private int kindWith(int[] kindTable, int sign, int first, int second) {
+            int cell = signs.cell(sign, classKinds[first], classKinds[second], MOST_CLASSES);
+            return Math.max(0, kindTable[cell]);
         }
 
         private int sizeWith(int sign, int first, int second) {
@@ -696,7 +699,7 @@ public final class TreeTongues {
             for (int s = 0; s < signs.known; s++) {
                 for (int x = 0; x < signs.choices(s, 0, classCount); x++) {
                     for (int y = 0; y < signs.choices(s, 1, classCount); y++) {
-                        int kind = kindTable[kindCell(s, x, y)];
+                        int kind = kindWith(kindTable, s, x, y);
                         table[signs.cell(s, x, y, MOST_CLASSES)] = kindClasses[kind];
                     }
                 }
@@ -787,16 +790,14 @@ public final class TreeTongues {
             return image;
         }
 
-        /** What a sign makes of a state as one part and a set of states as the other, if it has it. */
+        /** What a sign of rank 2 makes of a state as one part and a set of states as the other. */
         int image(int sign, boolean asFirst, int state, int other) {
             int base = sign * NET_STATES * NET_STATES;
-            if (signs.rankOf(sign) < 2) {
-                return images[base + state * NET_STATES];
-            }
             int image = 0;
             for (int o = 0; o < states; o++) {
                 if ((other >> o & 1) != 0) {
-                    image |= images[base + (asFirst ? state * NET_STATES + o : o * NET_STATES + state)];
+                    int cell = asFirst ? state * NET_STATES + o : o * NET_STATES + state;
+                    image |= images[base + cell];
                 }
             }
             return image;
@@ -814,7 +815,7 @@ public final class TreeTongues {
             way = asWay;
         }
 
-        /** In the net a sign does what another one does in the machine, whose classes begin at base. */
+        /** A sign does in the net what another does in the machine; its classes begin at base. */
         private void enter(Machine machine, int base, int sign, int asSign) {
             int many = machine.classCount;
             for (int x = 0; x < signs.choices(sign, 0, many); x++) {
@@ -954,6 +955,7 @@ public final class TreeTongues {
         private final int[] kindMarks = new int[MOST_CLASSES];
         private final int[] table = new int[MOST_SIGNS * MOST_CLASSES * MOST_CLASSES];
         private int kindCount = 0;
+        private boolean areTooMany = false;
 
         /** A probe makes its step and then asks as an earlier one; probe 0 asks at once. */
         private final Step[] probes = new Step[MOST_PROBES];
@@ -973,12 +975,9 @@ public final class TreeTongues {
         void reduceTo(Machine machine) {
             begin();
             boolean isSteady = false;
-            for (int round = 0; round < MOST_PROBES && !isSteady; round++) {
-                if (!sortKinds()) {
-                    break;
-                }
+            for (int round = 0; round < MOST_PROBES && !isSteady && !areTooMany; round++) {
                 Arrays.fill(table, OPEN);
-                isSteady = reachLeaves() && reachAll();
+                isSteady = sortKinds() && reachLeaves() && reachAll();
             }
             if (isSteady) {
                 machine.take(table, kindCount, finalKinds());
@@ -993,6 +992,7 @@ public final class TreeTongues {
             }
             reached = 0;
             probeCount = 1;
+            areTooMany = false;
         }
 
         private int finalKinds() {
@@ -1037,6 +1037,7 @@ public final class TreeTongues {
                 }
             }
             if (kindCount >= MOST_CLASSES) {
+                areTooMany = true;
                 return OPEN;
             }
             kindMarks[kindCount] = bits;
@@ -1044,7 +1045,7 @@ public final class TreeTongues {
             return kindCount++;
         }
 
-        /** The number of a set, which is a new one if it was not reached yet; OPEN: too many kinds. */
+        /** The number of a set, a new one if it was not reached yet; OPEN: too many kinds. */
         private int reach(int set) {
             if (numbers[set] > 0) {
                 return numbers[set] - 1;
@@ -1075,7 +1076,7 @@ public final class TreeTongues {
             return true;
         }
 
-        /** Whether sets of one kind always lead to one kind. Of each kind the first set leads first. */
+        /** Whether sets of one kind lead to one kind. Of each kind the first set leads first. */
         private boolean reachAll() {
             for (int i = 0; i < reached && i < MOST_SETS; i++) {
                 for (int s = 0; s < signs.known; s++) {
@@ -1125,7 +1126,7 @@ public final class TreeTongues {
             int next = lowestBit(bits ^ dueBits);
             int like = kindSets[kinds[first]];
             Step step = probes[probeCount];
-            step.load(net, sign, true, sets[second]);
+            step.load(net, sign, true, signs.rankOf(sign) == 2 ? sets[second] : NO_PART);
             int changed = marksOf(step.from(like)) ^ bits;
             if ((changed >> next & 1) == 0) {
                 step.load(net, sign, false, like);
@@ -1275,7 +1276,8 @@ public final class TreeTongues {
             int below = base + MOST_CLASSES;
             long sum = 0;
             for (int x = 0; x < machine.classCount; x++) {
-                weights[below + x] = signs.rankOf(sign) == 1 ? weights[base + machine.step(sign, x, 0)]
+                weights[below + x] = signs.rankOf(sign) == 1
+                        ? weights[base + machine.step(sign, x, 0)]
                         : seconds(machine, sign, x, size - 1 - firstSize, base);
                 sum = plus(sum, times(machine.counts[firstSize * MOST_CLASSES + x],
                         weights[below + x]));
@@ -1300,8 +1302,8 @@ public final class TreeTongues {
         }
 
         /**
-         * Writes the tree of this size at which so much has been counted; its class. What of its own
-         * count is then left over says which second part it has, where it is a first one.
+         * Writes the tree of this size at which so much has been counted; its class. What is left
+         * of the number then says which second part goes with it, where it is a first one.
          */
         private int write(Machine machine, int size, int depth, long number) {
             if (depth >= MOST_SIZE) {
