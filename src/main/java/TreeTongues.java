@@ -1343,7 +1343,7 @@ public final class TreeTongues {
             }
             int size = row.spans[i];
             int sign = row.numbers[i];
-            int rank = signs.rankOf(sign);
+            int rank = i + 1 < row.length ? signs.rankOf(sign) : 0;
             int firstSize = rank > 0 ? row.spans[i + 1] : 0;
             long sum = 0;
             for (int s = 0; s <= sign; s++) {
