@@ -100,6 +100,7 @@ public final class PromiseTests {
         grafting();
         undoing();
         leastMachines();
+        longestFirstTree();
         askingOneTree();
         leastAndUnlike();
         ending();
@@ -606,6 +607,51 @@ public final class PromiseTests {
         due(13, "back, of no classes", none.back(0, 8), 6);
         due(16, "no leaf to graft on", none.grafted(0, 0, 0), BAD);
         due(25, "all alike", none.unlike(0, 1), NONE);
+    }
+
+    /**
+     * Trees of levels 0 to 5: two of a level make one of the next. Those of level 5 are of states 3
+     * and 4 at once, so that five states tell six classes.
+     */
+    private static int levels(TreeTongues x, int finalState) {
+        int t = x.tongue(5);
+        x.rule(t, 0, 0, 0, 0);
+        for (int i = 0; i < 5; i++) {
+            for (int j = 0; j < 5; j++) {
+                int mixed = i > 2 && j > 2 ? 3 : 0;
+                x.rule(t, 1, i, j, i == j && i < 4 ? i + 1 : mixed);
+            }
+        }
+        x.rule(t, 1, 4, 4, 4);
+        x.last(t, finalState, true);
+        return t;
+    }
+
+    /** Six classes whose first trees double: no first tree can have more than 63 signs. */
+    private static void longestFirstTree() {
+        TreeTongues x = withSigns(0, 2);
+        int three = levels(x, 3);
+        int four = levels(x, 4);
+        int both = x.of(1, three, four);
+        for (int t = 0; t < 3; t++) {
+            due(18, "six classes", x.classes(t), 6);
+            for (int c = 0; c < 6; c++) {
+                due(21, "class " + c, x.size(t, c), (2 << c) - 1);
+            }
+        }
+        due(24, "level 3", x.least(three), 15);
+        due(24, "level 4", x.least(four), 31);
+        due(24, "level 5", x.least(both), 63);
+        due(24, "its numbers", x.told(1), 63);
+        due(24, "two of a level below", x.at(0) + x.at(1) + x.at(32), 3);
+        due(22, "its class", x.classOf(both), 5);
+        due(23, "is in", x.has(both), 1);
+        due(29, "a size above 40", x.place(both), -1);
+        due(28, "none of a size of 40 at most", x.tree(both, 0), NONE);
+        due(28, "the row stays", x.told(1), 63);
+        due(27, "none of size 40", x.count(both, 40), 0);
+        due(26, "no end", x.ends(both), 0);
+        due(25, "the first that is in one alone", x.unlike(both, three), 15);
     }
 
     private static void askingOneTree() {
