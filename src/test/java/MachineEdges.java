@@ -347,6 +347,9 @@ public final class MachineEdges {
         bench.due(26, "the longest chain", x.ends(Bench.chain(x, 2, 4)), 1);
         bench.due(26, "all trees", x.ends(Bench.all(x)), 0);
         bench.due(26, "all but one", x.ends(x.not(1)), 0);
+        for (int length = 1; length <= 5; length++) {
+            bench.due(26, "round by " + length + " classes", x.ends(Bench.loop(x, 2, length)), 0);
+        }
         TreeTongues leaves = Bench.withSigns(0, 0, 0, 0, 0, 0);
         bench.due(26, "leaves alone: all trees", leaves.ends(Bench.all(leaves)), 1);
         bench.due(26, "leaves alone: not none", leaves.ends(leaves.not(leaves.tongue(1))), 1);

@@ -15,12 +15,14 @@ public final class NumberEdges {
         countsThatAreRefused();
         countsAboutTheBound();
         countsOfAllTrees();
+        countsByClasses();
         numbersOfTrees();
         theFirstThatFitsForTree();
         noTreeOfThatNumber();
         treesOfSizeForty();
         theLastTreeOfAll();
         treesAboutTheBound();
+        treesAsTheyComeInOrder();
         placesThatAreRefused();
         placesOfSizeForty();
         placesOfTreesThatAreNotIn();
@@ -194,6 +196,128 @@ public final class NumberEdges {
         }
     }
 
+    /** Pairs whose first part is a leaf, and no other trees: products by as many as leaves. */
+    private static int leafFirst(TreeTongues x, int[] ranks) {
+        int t = x.tongue(3);
+        for (int s = 0; s < ranks.length; s++) {
+            if (ranks[s] == 0) {
+                x.rule(t, s, 0, 0, 0);
+                x.rule(t, s, 0, 0, 1);
+            } else {
+                x.rule(t, s, 0, 0, 0);
+                if (ranks[s] == 2) {
+                    x.rule(t, s, 1, 0, 2);
+                }
+            }
+        }
+        x.last(t, 2, true);
+        return t;
+    }
+
+    /** The same, the second part being the leaf. */
+    private static int leafSecond(TreeTongues x, int[] ranks) {
+        int t = x.tongue(3);
+        for (int s = 0; s < ranks.length; s++) {
+            x.rule(t, s, 0, 0, 0);
+            if (ranks[s] == 0) {
+                x.rule(t, s, 0, 0, 1);
+            } else if (ranks[s] == 2) {
+                x.rule(t, s, 0, 1, 2);
+            }
+        }
+        x.last(t, 2, true);
+        return t;
+    }
+
+    /** The number of leaves is a multiple of three. */
+    private static int leavesByThree(TreeTongues x, int[] ranks) {
+        int t = x.tongue(3);
+        for (int s = 0; s < ranks.length; s++) {
+            for (int q = 0; q < 3; q++) {
+                if (ranks[s] == 0 && q == 0) {
+                    x.rule(t, s, 0, 0, 1);
+                } else if (ranks[s] == 1) {
+                    x.rule(t, s, q, 0, q);
+                }
+            }
+        }
+        for (int s = 0; s < ranks.length; s++) {
+            for (int q = 0; ranks[s] == 2 && q < 9; q++) {
+                x.rule(t, s, q % 3, q / 3, (q % 3 + q / 3) % 3);
+            }
+        }
+        x.last(t, 0, true);
+        return t;
+    }
+
+    private static int byKind(TreeTongues x, int[] ranks, int kind) {
+        return kind == 0 ? leafFirst(x, ranks) : kind == 1 ? leafSecond(x, ranks)
+                : leavesByThree(x, ranks);
+    }
+
+    /** Counts without any bound, by the machine that the class tells. */
+    private static BigInteger[] countsBy(TreeTongues x, int t, int[] ranks) {
+        int many = x.classes(t);
+        BigInteger[][] counts = new BigInteger[41][many];
+        BigInteger[] sums = new BigInteger[41];
+        java.util.Arrays.fill(counts[0], BigInteger.ZERO);
+        for (int n = 1; n <= 40; n++) {
+            java.util.Arrays.fill(counts[n], BigInteger.ZERO);
+        }
+        int[][][] to = new int[ranks.length][many][many];
+        for (int s = 0; s < ranks.length; s++) {
+            for (int a = 0; a < (ranks[s] > 0 ? many : 1); a++) {
+                for (int b = 0; b < (ranks[s] > 1 ? many : 1); b++) {
+                    to[s][a][b] = x.go(t, s, a, b);
+                }
+            }
+        }
+        for (int n = 1; n <= 40; n++) {
+            for (int s = 0; s < ranks.length; s++) {
+                addCounts(counts, n, ranks[s], to[s]);
+            }
+            sums[n] = BigInteger.ZERO;
+            for (int c = 0; c < many; c++) {
+                sums[n] = x.isLast(t, c) == 1 ? sums[n].add(counts[n][c]) : sums[n];
+            }
+        }
+        return sums;
+    }
+
+    private static void addCounts(BigInteger[][] counts, int n, int rank, int[][] to) {
+        int many = to.length;
+        if (rank == 0 && n == 1) {
+            counts[n][to[0][0]] = counts[n][to[0][0]].add(BigInteger.ONE);
+        }
+        for (int a = 0; rank == 1 && a < many; a++) {
+            counts[n][to[a][0]] = counts[n][to[a][0]].add(counts[n - 1][a]);
+        }
+        for (int a = 0; rank == 2 && a < many; a++) {
+            for (int b = 0; b < many; b++) {
+                for (int i = 1; i < n - 1; i++) {
+                    BigInteger more = counts[i][a].multiply(counts[n - 1 - i][b]);
+                    counts[n][to[a][b]] = counts[n][to[a][b]].add(more);
+                }
+            }
+        }
+    }
+
+    private static void countsByClasses() {
+        for (int[] ranks : allRanks()) {
+            for (int kind = 0; kind < 3; kind++) {
+                TreeTongues x = Bench.withSigns(ranks);
+                int t = byKind(x, ranks, kind);
+                BigInteger[] counts = countsBy(x, t, ranks);
+                TreeTongues y = Bench.withSigns(ranks);
+                byKind(y, ranks, kind);
+                for (int n = 1; n <= 40; n++) {
+                    bench.due(27, "kind " + kind + ", signs " + java.util.Arrays.toString(ranks)
+                            + ", size " + n, y.count(t, n), cut(counts[n]));
+                }
+            }
+        }
+    }
+
     // ---- tree
 
     private static void numbersOfTrees() {
@@ -272,6 +396,18 @@ public final class NumberEdges {
         bench.due(28, "of size 40", y.tree(t, 39), 40);
         bench.due(28, "of size 41", y.tree(t, 40), NONE);
         bench.due(28, "the row stays", y.told(1), 40);
+        // the leaf comes last of all signs: the others are looked at even at the deepest place
+        for (int rank = 1; rank <= 2; rank++) {
+            TreeTongues z = Bench.withSigns(rank, 1, 0);
+            int v = z.tongue(1);
+            z.rule(v, 1, 0, 0, 0);
+            z.rule(v, 2, 0, 0, 0);
+            z.last(v, 0, true);
+            bench.due(28, "of size 40", z.tree(v, 39), 40);
+            bench.due(28, "the last step", z.at(38), 1);
+            bench.due(28, "the leaf", z.at(39), 2);
+            bench.due(29, "its place", z.place(v), 39);
+        }
     }
 
     private static Consumer<TreeTongues> sixth(int more) {
@@ -369,6 +505,57 @@ public final class NumberEdges {
                 if (want.length > 0) {
                     bench.dueRow(28, what, x, want);
                     bench.due(29, what + ": its place", x.place(t), k);
+                }
+            }
+        }
+    }
+
+    /** All trees over signs of these ranks up to a size, in order. */
+    private static List<int[]> inOrder(int[] ranks, int most) {
+        List<List<int[]>> bySize = new ArrayList<>();
+        List<int[]> all = new ArrayList<>();
+        bySize.add(List.of());
+        for (int n = 1; n <= most; n++) {
+            List<int[]> list = new ArrayList<>();
+            for (int s = 0; s < ranks.length; s++) {
+                int[] alone = {s};
+                if (ranks[s] == 0 && n == 1) {
+                    list.add(alone);
+                }
+                for (int i = 1; ranks[s] > 0 && i < n; i++) {
+                    if (ranks[s] == 1 && i == n - 1) {
+                        bySize.get(i).forEach(part -> list.add(joined(alone, part)));
+                    }
+                    for (int[] first : ranks[s] == 2 ? bySize.get(i) : List.<int[]>of()) {
+                        bySize.get(n - 1 - i).forEach(
+                                second -> list.add(joined(joined(alone, first), second)));
+                    }
+                }
+            }
+            bySize.add(list);
+            all.addAll(list);
+        }
+        return all;
+    }
+
+    /** Every small tree: its place is how many were in it so far, and the next number finds it. */
+    private static void treesAsTheyComeInOrder() {
+        int[][] kinds = {{0, 0, 1, 2}, {2, 0, 0}, {1, 2, 0}, {2, 2, 0}, {2, 1, 0, 0}};
+        for (int[] ranks : kinds) {
+            List<int[]> trees = inOrder(ranks, ranks.length == 4 ? 5 : 7);
+            for (int kind = 0; kind < 3; kind++) {
+                int ahead = 0;
+                for (int[] tree : trees) {
+                    String what = "kind " + kind + ", tree " + java.util.Arrays.toString(tree);
+                    TreeTongues x = Bench.withSigns(ranks);
+                    int t = byKind(x, ranks, kind);
+                    Bench.setRow(x, tree);
+                    bench.due(29, what, x.place(t), ahead);
+                    if (x.has(t) == 1) {
+                        bench.due(28, what, x.tree(t, ahead), tree.length);
+                        bench.dueRow(28, what, x, tree);
+                        ahead++;
+                    }
                 }
             }
         }
